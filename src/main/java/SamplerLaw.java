@@ -402,7 +402,8 @@ public final class SamplerLaw {
             return STATE;
         }
         long sum = 0;
-        for (int ran = 0; ran < 1 << runnerCount; ran++) {
+        int all = 1 << runnerCount;
+        for (int ran = 0; ran < all; ran++) {
             letRun(ran);
             if (trial.reads(l) > 0) {
                 sum += weight(ran, v);
@@ -419,7 +420,8 @@ public final class SamplerLaw {
             return STATE;
         }
         long sum = 0;
-        for (int ran = 0; ran < 1 << runnerCount; ran++) {
+        int all = 1 << runnerCount;
+        for (int ran = 0; ran < all; ran++) {
             letRun(ran);
             sum += weight(ran, v) * trial.worth();
         }
@@ -455,7 +457,8 @@ public final class SamplerLaw {
             return STATE;
         }
         int fitting = 0;
-        for (int fill = 0; fill < fillCount(); fill++) {
+        int all = fillCount();
+        for (int fill = 0; fill < all; fill++) {
             if (fits(fill)) {
                 fitting++;
             }
@@ -472,7 +475,8 @@ public final class SamplerLaw {
             return STATE;
         }
         int bits = 0;
-        for (int fill = 0; fill < fillCount(); fill++) {
+        int all = fillCount();
+        for (int fill = 0; fill < all; fill++) {
             if (fits(fill)) {
                 bits |= 1 << trial.cells[at];
             }
@@ -488,7 +492,8 @@ public final class SamplerLaw {
             return STATE;
         }
         int found = NONE;
-        for (int fill = 0; fill < fillCount(); fill++) {
+        int all = fillCount();
+        for (int fill = 0; fill < all; fill++) {
             if (fits(fill)) {
                 int worth = trial.worth();
                 if (found == NONE) {
@@ -863,7 +868,8 @@ public final class SamplerLaw {
     private int groupByReads() {
         Arrays.fill(groups, 0);
         int fitting = 0;
-        for (int fill = 0; fill < fillCount(); fill++) {
+        int all = fillCount();
+        for (int fill = 0; fill < all; fill++) {
             if (fits(fill)) {
                 fitting++;
                 for (int l = 0; l < trial.lawCount; l++) {
