@@ -594,10 +594,10 @@ public final class SamplerLaw {
         Sheet sheet = sheets[k];
         trial.copyFrom(now);
         int came = 0;
-        int found = sheet.faultAsOf(lane);
+        int found = 0;
         for (int i = 0; i < n && found == 0; i++) {
             int from = f + 3 * i;
-            found = sheet.faultAt(from, 3);
+            found = sheet.faultAsOf(lane, from, 3);
             if (found == 0) {
                 if (!workFrom(sheet, from)) {
                     return -20 - i;
@@ -937,9 +937,9 @@ public final class SamplerLaw {
             }
         }
 
-        /** Nothing can be taken as of any lane, as the machine casts null. */
-        int faultAsOf(int wanted) {
-            return length >= 0 && lane != wanted ? CAST_FAULT : 0;
+        /** Nothing can be taken as of any lane, as the machine casts null: then it is no CAST. */
+        int faultAsOf(int wanted, int from, int many) {
+            return length >= 0 && lane != wanted ? CAST_FAULT : faultAt(from, many);
         }
 
         int faultAt(int from, int many) {

@@ -771,7 +771,7 @@ public final class ModelTest {
             long[] row = sheets[a[0]];
             State then = s;
             int came = 0;
-            int found = row != null && lanes[a[0]] != a[1] ? 3 : 0;
+            int found = a[3] > 0 && row != null && lanes[a[0]] != a[1] ? 3 : 0;
             while (came < a[3] && found == 0) {
                 int[] three = new int[3];
                 for (int j = 0; j < 3 && found == 0; j++) {
