@@ -6,8 +6,9 @@ import java.util.Random;
 
 /** Random runs of calls, each answer beside that of a plain model which counts everything anew. */
 public final class ModelTest {
-    private static final int RUNS = 3000;
-    private static final int CALLS = 300;
+    private static final int RUNS = 4000;
+    /** What later calls answer is free. */
+    private static final int MOST_CALLS = 512;
     private static final String[] NAMES = {
         "feed", "end", "text", "fault", "rule", "cell", "thread", "law", "stitch", "amend", "spool", "plan", "cut",
         "enact", "work", "unpick", "moth", "mend", "runs", "ahead", "best", "need", "loose", "dye", "turn", "leave",
@@ -30,9 +31,12 @@ public final class ModelTest {
         SamplerLaw real = new SamplerLaw();
         Plain model = new Plain();
         List<String> log = new ArrayList<>();
-        for (int i = 0; i < CALLS; i++) {
+        int calls = 0;
+        while (calls < MOST_CALLS) {
             if (random.nextInt(40) == 0) {
                 String text = randomText(random);
+                if (calls + text.length() + 2 > MOST_CALLS) break;
+                calls += text.length() + 2;
                 for (int j = 0; j < text.length(); j++) {
                     real.feed(text.charAt(j));
                     model.call("feed", new int[] {text.charAt(j), 0, 0, 0});
@@ -40,9 +44,11 @@ public final class ModelTest {
                 log.add("fed: " + text);
                 if (!sameAnswer(real, model, "text", new int[4], log)) return false;
                 if (!sameAnswer(real, model, "fault", new int[4], log)) return false;
+                continue;
             }
             String name = NAMES[random.nextInt(NAMES.length)];
             if (name.equals("text") && random.nextInt(4) != 0) continue;
+            calls++;
             if (!sameAnswer(real, model, name, argumentsOf(name, random), log)) return false;
         }
         return true;
