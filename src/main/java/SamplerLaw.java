@@ -1274,15 +1274,15 @@ public final class SamplerLaw {
             }
         }
 
-        /** A seventh cell is one too many whatever its number is, so its bounds come after. */
+        /** What stands as a seventh cell is one too many, whether it is a number or not; at the end nothing stands. */
         private void takeCell(Charter charter, int x, int y) {
             if (faultKind != 0) {
                 return;
             }
-            if (token != TOKEN_NUMBER) {
-                fail(MISPLACED);
-            } else if (x >= SIDE) {
+            if (x >= SIDE && token != TOKEN_END) {
                 fail(TOO_MANY);
+            } else if (token != TOKEN_NUMBER) {
+                fail(MISPLACED);
             } else if (value > HOLE) {
                 fail(OUT_OF_BOUNDS);
             } else {

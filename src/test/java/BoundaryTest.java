@@ -721,6 +721,13 @@ public final class BoundaryTest {
         faulty("row 0 1 1 1 1 1 1 4;", 18, 5);
         faulty("row 0 1 1 1 1 1 1 5;", 18, 5);
         faulty("row 0 1 1 1 1 1 1 99", 18, 5);
+        faulty("row 0 1 1 1 1 1 1 row 1;", 18, 5);
+        faulty("row 0 1 1 1 1 1 1  king", 19, 5);
+        faulty("row 0 1 1 1 1 1 1 999;", 18, 1);
+        faulty("row 0 1 1 1 1 1 1 !", 18, 1);
+        faulty("row 0 1 1 1 1 1 row 1;", 16, 2);
+        faulty("row 0 1 1 1 1 1 1", 17, 2);
+        faulty("row 0 1 1 1 1 1 1  ", 19, 2);
         textThatIsTaken();
     }
 

@@ -5,6 +5,8 @@ import java.lang.reflect.Method;
 import java.lang.reflect.Modifier;
 import java.nio.file.Files;
 import java.nio.file.Path;
+import java.util.LinkedHashSet;
+import java.util.List;
 import java.util.Set;
 import java.util.TreeSet;
 import java.util.regex.Matcher;
@@ -22,6 +24,7 @@ public final class FormTest {
     public static void main(String[] args) throws IOException {
         face();
         hiddenMembers();
+        sizes();
         source();
         System.out.println(wrong == 0 ? "the form is as due" : wrong + " faults of form");
         if (wrong != 0) System.exit(1);
@@ -72,6 +75,26 @@ public final class FormTest {
             if (!Modifier.isStatic(inside.getModifiers())) tell(inside + " is not static");
             for (Method method : inside.getDeclaredMethods()) {
                 if (open.contains(method.getName())) tell(inside + " has a method " + method.getName());
+            }
+        }
+    }
+
+    private static void sizes() {
+        Set<Class<?>> all = new LinkedHashSet<>(List.of(SamplerLaw.class.getDeclaredClasses()));
+        if (all.size() > 12) tell(all.size() + " classes inside");
+        all.add(SamplerLaw.class);
+        for (Class<?> one : all) {
+            int fields = 0;
+            for (Field field : one.getDeclaredFields()) {
+                if (!Modifier.isStatic(field.getModifiers())) {
+                    fields++;
+                } else if (!Modifier.isFinal(field.getModifiers())) {
+                    tell(one + " has static state: " + field.getName());
+                }
+            }
+            if (fields > 20) tell(one + " has " + fields + " fields");
+            for (Method method : one.getDeclaredMethods()) {
+                if (method.getParameterCount() > 7) tell(one + " has a long list of parameters: " + method.getName());
             }
         }
     }
