@@ -8,7 +8,7 @@ import java.util.regex.Pattern;
 
 /** The lines of README.md answer as they say there, and it names every call of the face. */
 public final class ReadmeTest {
-    private static final Pattern FED = Pattern.compile("// \"([^\"]*)\" fed");
+    private static final Pattern FED = Pattern.compile("\"([^\"]*)\"\\.toCharArray\\(\\)\\) s\\.feed\\(c\\);");
     private static final Pattern ASKED = Pattern.compile("s\\.(\\w+)\\(([-0-9, ]*)\\);\\s*// (-?\\d+)(:.*)?");
     private static int wrong = 0;
 
