@@ -1274,15 +1274,15 @@ public final class SamplerLaw {
             }
         }
 
-        /** What stands as a seventh cell is one too many, whether it is a number or not; at the end nothing stands. */
+        /** A seventh cell is told by a number, and is one too many whether that is a colour or not. */
         private void takeCell(Charter charter, int x, int y) {
             if (faultKind != 0) {
                 return;
             }
-            if (x >= SIDE && token != TOKEN_END) {
-                fail(TOO_MANY);
-            } else if (token != TOKEN_NUMBER) {
+            if (token != TOKEN_NUMBER) {
                 fail(MISPLACED);
+            } else if (x >= SIDE) {
+                fail(TOO_MANY);
             } else if (value > HOLE) {
                 fail(OUT_OF_BOUNDS);
             } else {

@@ -701,6 +701,14 @@ public final class BoundaryTest {
         faulty("cross 1 1 1", 11, 2);
         faulty(";", 0, 2);
         faulty("12", 0, 2);
+        for (int cells = 0; cells <= 6; cells++) {
+            String row = "row 0" + times(cells, " 1");
+            faulty(row, 5 + 2 * cells, 2);
+            faulty(row + "  ", 7 + 2 * cells, 2);
+            faulty(row + "o", 5 + 2 * cells, 2);
+            faulty(row + "  king", 7 + 2 * cells, 2);
+            faulty(row + " row 1;", 6 + 2 * cells, 2);
+        }
         says(TERMS, "3 a NUMBER out of its bounds.");
         faulty("row 6;", 4, 3);
         faulty("row 5 5;", 6, 3);
@@ -721,13 +729,9 @@ public final class BoundaryTest {
         faulty("row 0 1 1 1 1 1 1 4;", 18, 5);
         faulty("row 0 1 1 1 1 1 1 5;", 18, 5);
         faulty("row 0 1 1 1 1 1 1 99", 18, 5);
-        faulty("row 0 1 1 1 1 1 1 row 1;", 18, 5);
-        faulty("row 0 1 1 1 1 1 1  king", 19, 5);
+        faulty("row 0 1 1 1 1 1 1 0 king", 18, 5);
         faulty("row 0 1 1 1 1 1 1 999;", 18, 1);
         faulty("row 0 1 1 1 1 1 1 !", 18, 1);
-        faulty("row 0 1 1 1 1 1 row 1;", 16, 2);
-        faulty("row 0 1 1 1 1 1 1", 17, 2);
-        faulty("row 0 1 1 1 1 1 1  ", 19, 2);
         textThatIsTaken();
     }
 

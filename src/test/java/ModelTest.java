@@ -326,8 +326,8 @@ public final class ModelTest {
             rows.add(y);
             int x = 0;
             for (String token = token(); !token.equals(";"); token = token()) {
-                if (x == 6 && !token.isEmpty()) throw new Refused(5, start);
                 if (!token.matches("[0-9]+")) throw new Refused(2, start);
+                if (x == 6) throw new Refused(5, start);
                 if (Integer.parseInt(token) > 4) throw new Refused(3, start);
                 state.cell[x][y] = Integer.parseInt(token);
                 x++;

@@ -152,8 +152,9 @@ public final class PromisesTest {
         refused("row 0 1 1 1 1 1 1 0;", 18, 5);
         refused("row 0 1 1 1 1 1 1 9;", 18, 5);
         refused("row 0 1 1 1 1 1 1 100;", 18, 1);
-        refused("row 0 1 1 1 1 1 1 a;", 18, 5);
-        refused("row 0 1 1 1 1 1 1 row 1 1;", 18, 5);
+        refused("row 0 1 1 1 1 1 1 a;", 18, 2);
+        refused("row 0 1 1 1 1 1 1 row 1 1;", 18, 2);
+        refused("row0 1 1 1 2 0 1o", 16, 2);
         refused("row 0 1 1 1 1 1 1", 17, 2);
         refused("cross 1 1 1;cross 1 1 1;cross 1 1 1;cross 1 1 1;cross 1 1 1; above", 61, 5);
         due("feed", s.feed(32), 1);
